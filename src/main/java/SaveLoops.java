@@ -45,17 +45,14 @@ public final class SaveLoops {
         if (!isShare(b) || !isShare(a) || !isShare(z)) {
             return BAD;
         }
-        return parts.isFull() ? FULL : parts.add(b, a, z);
+        return parts.add(b, a, z);
     }
 
     public int test(int part, int day) {
         if (!parts.has(part) || !isDay(day)) {
             return BAD;
         }
-        if (!parts.isBehindTests(part, day)) {
-            return NO;
-        }
-        return parts.hasAllTests(part) ? FULL : parts.addTest(part, day);
+        return parts.addTest(part, day);
     }
 
     public int noTests(int part, int day) {
@@ -69,7 +66,7 @@ public final class SaveLoops {
         if (!parts.has(part) || !areDays(x, y)) {
             return BAD;
         }
-        return parts.hasAllBypasses() ? FULL : parts.addBypass(part, x, y);
+        return parts.addBypass(part, x, y);
     }
 
     public int bypassed(int part, int x, int y) {
@@ -83,7 +80,7 @@ public final class SaveLoops {
         if (!isShare(c) || !this.parts.hasAll(parts) || Integer.bitCount(parts) < 2) {
             return BAD;
         }
-        return groups.isFull() ? FULL : groups.add(c, parts);
+        return groups.add(c, parts);
     }
 
     public int vote(int k, int n, int i0, int i1, int i2, int i3) {
@@ -99,7 +96,7 @@ public final class SaveLoops {
                 return BAD;
             }
         }
-        return votes.isFull() ? FULL : votes.add(k, n, asked);
+        return votes.add(k, n, asked);
     }
 
     public int share(int part, int day) {
@@ -324,15 +321,14 @@ public final class SaveLoops {
             return bits >>> count == 0;
         }
 
-        boolean isFull() {
-            return count >= MOST_PARTS;
-        }
-
         int size() {
             return count;
         }
 
         int add(int b, int a, int z) {
+            if (count >= MOST_PARTS) {
+                return FULL;
+            }
             atOnce[count] = b;
             perDay[count] = a;
             forNothing[count] = z;
@@ -341,19 +337,17 @@ public final class SaveLoops {
             return count - 1;
         }
 
-        boolean isBehindTests(int part, int day) {
-            int tests = testCounts[part];
-            return tests == 0 || day > testDays[part * MOST_TESTS + tests - 1];
-        }
-
-        boolean hasAllTests(int part) {
-            return testCounts[part] >= MOST_TESTS;
-        }
-
         int addTest(int part, int day) {
-            testDays[part * MOST_TESTS + testCounts[part]] = day;
-            testCounts[part]++;
-            return testCounts[part];
+            int tests = testCounts[part];
+            if (tests > 0 && day <= testDays[part * MOST_TESTS + tests - 1]) {
+                return NO;
+            }
+            if (tests >= MOST_TESTS) {
+                return FULL;
+            }
+            testDays[part * MOST_TESTS + tests] = day;
+            testCounts[part] = tests + 1;
+            return tests + 1;
         }
 
         int dropTests(int part, int day) {
@@ -371,15 +365,14 @@ public final class SaveLoops {
             return sum;
         }
 
-        boolean hasAllBypasses() {
-            return bypasses >= MOST_BYPASSES;
-        }
-
         int allBypasses() {
             return bypasses;
         }
 
         int addBypass(int part, int x, int y) {
+            if (bypasses >= MOST_BYPASSES) {
+                return FULL;
+            }
             for (int word = 0; word < DAY_WORDS; word++) {
                 bypassBits[part * DAY_WORDS + word] |= daysInWord(word, x, y);
             }
@@ -445,15 +438,14 @@ public final class SaveLoops {
         private final int[] struck = new int[MOST_GROUPS];
         private int count = 0;
 
-        boolean isFull() {
-            return count >= MOST_GROUPS;
-        }
-
         int size() {
             return count;
         }
 
         int add(int share, int parts) {
+            if (count >= MOST_GROUPS) {
+                return FULL;
+            }
             shares[count] = share;
             struck[count] = parts;
             count++;
@@ -496,10 +488,6 @@ public final class SaveLoops {
             return vote >= 0 && vote < count;
         }
 
-        boolean isFull() {
-            return count >= MOST_VOTES;
-        }
-
         int size() {
             return count;
         }
@@ -513,6 +501,9 @@ public final class SaveLoops {
         }
 
         int add(int k, int n, int[] given) {
+            if (count >= MOST_VOTES) {
+                return FULL;
+            }
             int vote = count;
             needed[vote] = k;
             inputCounts[vote] = n;

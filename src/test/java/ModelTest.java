@@ -25,6 +25,9 @@ public final class ModelTest {
         slow = new SlowLoops();
         // Runs with few parts are those in which plans and chances are seldom refused.
         mostParts = 1 + run % 12;
+        if (run % 4 == 3 && mostParts >= 8) {
+            startWide("run " + run + ": ");
+        }
         for (int call = 0; call < CALLS && !check.hasFailedOften(); call++) {
             int kind = below(100);
             if (kind < 45 || call < 20) {
@@ -32,6 +35,21 @@ public final class ModelTest {
             } else {
                 ask("run " + run + ", call " + call + ": ");
             }
+        }
+    }
+
+    /** Votes over 8 parts are seldom met by chance, so some runs begin with two halves to build on. */
+    private void startWide(String where) {
+        for (int i = 0; i < 8; i++) {
+            int b = below(40), a = below(2), z = below(65);
+            check.due(where + "part", slow.part(b, a, z), fast.part(b, a, z));
+        }
+        for (int i = 0; i < 8; i++) {
+            int k = 1 + below(i < 2 ? 4 : 2);
+            int n = i < 2 ? 4 : 2 + below(2);
+            int i0 = i < 2 ? 4 * i : 12, i1 = i < 2 ? 4 * i + 1 : 13;
+            int i2 = i < 2 ? 4 * i + 2 : below(8), i3 = i < 2 ? 4 * i + 3 : 0;
+            check.due(where + "vote", slow.vote(k, n, i0, i1, i2, i3), fast.vote(k, n, i0, i1, i2, i3));
         }
     }
 

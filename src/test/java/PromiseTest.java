@@ -33,6 +33,7 @@ public final class PromiseTest {
         count();
         refusalsChangeNothing();
         deepVotes();
+        wideVotes();
         check.end();
     }
 
@@ -617,5 +618,33 @@ public final class PromiseTest {
         check.due("chance through 12 votes", CERTAIN / 4, x.chance(11, 0));
         check.due("nothing through 12 votes", CERTAIN / 2, x.nothing(11));
         check.due("over through 12 votes", CERTAIN / 4 * 200, x.over(11, 0, 199));
+    }
+
+    /** Votes of 8 parts, one behind another, and votes of one part among them: each stays itself. */
+    private static void wideVotes() {
+        SaveLoops x = new SaveLoops();
+        for (int i = 0; i < 9; i++) {
+            x.part(32, 0, 32);
+        }
+        x.vote(1, 4, 0, 1, 2, 3);
+        x.vote(1, 4, 4, 5, 6, 7);
+        x.vote(1, 2, 12, 13, 0, 0);
+        x.vote(1, 1, 0, 0, 0, 0);
+        x.vote(2, 2, 12, 13, 0, 0);
+        x.vote(4, 4, 0, 1, 2, 3);
+        x.vote(2, 2, 17, 13, 0, 0);
+        x.vote(4, 4, 4, 5, 6, 7);
+        x.vote(2, 2, 17, 19, 0, 0);
+        x.vote(1, 1, 7, 0, 0, 0);
+        x.vote(1, 2, 17, 19, 0, 0);
+        x.vote(2, 4, 17, 12, 13, 19);
+        long[] failing = {16, 16, 1, 128, 31, 240, 241, 240, 255, 128, 225, 29};
+        for (int vote = 0; vote < 12; vote++) {
+            check.due("wide chance " + vote, CERTAIN / 256 * failing[vote], x.chance(vote, 0));
+            check.due("wide nothing " + vote, CERTAIN / 256 * (256 - failing[vote]), x.nothing(vote));
+        }
+        check.due("most of 8 parts", 0, x.most(2, 0));
+        check.due("matters of a part beside 8", 0, x.matters(2, 8, 0));
+        check.due("matters of the last of 8", CERTAIN / 128, x.matters(2, 7, 0));
     }
 }

@@ -2,6 +2,8 @@
 public final class ModelTest {
     private static final int RUNS = 240;
     private static final int CALLS = 512;
+    /** Calls that startWide makes: they count, too. */
+    private static final int WIDE_CALLS = 16;
     private static final long CERTAIN = 281474976710656L;
     private static final int[] WILD = {-1, Integer.MIN_VALUE, Integer.MAX_VALUE, 1000, 64, 65, 12, 24, 31, 32, 200, 4096, -13};
 
@@ -28,9 +30,9 @@ public final class ModelTest {
         if (run % 4 == 3 && mostParts >= 8) {
             startWide("run " + run + ": ");
         }
-        for (int call = 0; call < CALLS && !check.hasFailedOften(); call++) {
+        for (int call = WIDE_CALLS; call < CALLS && !check.hasFailedOften(); call++) {
             int kind = below(100);
-            if (kind < 45 || call < 20) {
+            if (kind < 45 || call < WIDE_CALLS + 20) {
                 change("run " + run + ", call " + call + ": ");
             } else {
                 ask("run " + run + ", call " + call + ": ");

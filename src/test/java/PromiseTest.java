@@ -31,7 +31,6 @@ public final class PromiseTest {
         plan();
         planOrder();
         count();
-        refusalsChangeNothing();
         deepVotes();
         wideVotes();
         check.end();
@@ -559,52 +558,6 @@ public final class PromiseTest {
         check.due("count 5", BAD, x.count(5));
         x.noTests(0, 2);
         check.due("count tests that are left", 2, x.count(1));
-    }
-
-    private static String told(SaveLoops x) {
-        StringBuilder text = new StringBuilder();
-        for (int what = 0; what < 5; what++) {
-            text.append(x.count(what)).append(' ');
-        }
-        for (int part = 0; part < x.count(0); part++) {
-            text.append(x.bypassed(part, 0, 999)).append(' ');
-            for (int day = 0; day < 1000; day += 9) {
-                text.append(x.share(part, day)).append(' ');
-            }
-        }
-        for (int vote = 0; vote < x.count(4); vote++) {
-            text.append(x.below(vote, 0)).append(' ').append(x.below(vote, 1)).append(' ');
-            text.append(x.chance(vote, 7)).append(' ').append(x.nothing(vote)).append(' ');
-        }
-        return text.append(x.plan(0, 3, 4, 5, 100 * CERTAIN, 0)).toString();
-    }
-
-    private static void refusalsChangeNothing() {
-        SaveLoops x = new SaveLoops();
-        x.part(1, 1, 3);
-        x.part(0, 3, 5);
-        x.vote(1, 2, 0, 1, 0, 0);
-        x.vote(2, 2, 12, 1, 0, 0);
-        x.group(3, 3);
-        x.test(0, 9);
-        x.bypass(1, 20, 30);
-        String before = told(x);
-        x.part(1, 1, 65);
-        x.test(0, 9);
-        x.test(1, 1000);
-        x.noTests(2, 0);
-        x.noTests(0, -1);
-        x.bypass(1, 0, 1000);
-        x.bypass(1, 31, 30);
-        x.group(3, 5);
-        x.group(65, 3);
-        x.vote(1, 2, 0, 14, 0, 0);
-        x.vote(3, 2, 0, 1, 0, 0);
-        x.cost(0, 1001);
-        x.plan(0, 3, 4, 0, 1, 0);
-        check.same("after refusals all", before, told(x));
-        check.due("after refusals the next vote", 2, x.vote(1, 1, 0, 0, 0, 0));
-        check.due("after refusals the next part", 2, x.part(0, 0, 0));
     }
 
     /** Each vote asks the one before it four times: to follow every way would not end in time. */

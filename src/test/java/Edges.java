@@ -11,7 +11,8 @@ final class Edges {
         -65536, 65536, -256, 256, 65537, -13, -12, 4096, 1 << 30,
     };
     private static final long[] FAR_LIMITS = {
-        Long.MIN_VALUE, Long.MIN_VALUE + 1, Long.MAX_VALUE - 1, Long.MAX_VALUE, Integer.MIN_VALUE, -(1L << 32), 1L << 56, 1L << 62,
+        Long.MIN_VALUE, Long.MIN_VALUE + 1, Long.MAX_VALUE - 1, Long.MAX_VALUE, Integer.MIN_VALUE, -(1L << 32),
+        1L << 56, 1L << 62,
     };
 
     private final Check check;

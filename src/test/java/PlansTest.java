@@ -67,8 +67,10 @@ public final class PlansTest {
     private static void partsAreThree() {
         edges.sentence("of each PART below it (3 at most)");
         String parts = Edges.times(12, "part 0 0 0");
-        Run x = edges.run(parts + ", vote 1 1 0 0 0 0, vote 1 2 0 1 0 0, vote 1 3 0 1 2 0, vote 1 4 0 1 2 3, vote 1 4 0 1 2 2, "
-            + "vote 1 2 14 3 0 0, vote 1 2 14 0 0 0, vote 1 3 9 10 11 0, vote 1 3 16 14 12 0, vote 1 2 14 19 0 0, vote 2 4 15 17 3 3");
+        Run x = edges.run(parts + ", vote 1 1 0 0 0 0, vote 1 2 0 1 0 0, vote 1 3 0 1 2 0, vote 1 4 0 1 2 3, "
+            + "vote 1 4 0 1 2 2, "
+            + "vote 1 2 14 3 0 0, vote 1 2 14 0 0 0, vote 1 3 9 10 11 0, vote 1 3 16 14 12 0, vote 1 2 14 19 0 0, "
+            + "vote 2 4 15 17 3 3");
         long[] costs = {1, 2, 3, NO, 3, NO, 3, 3, 3, NO, NO};
         for (int vote = 0; vote < costs.length; vote++) {
             x.due(costs[vote], "plan " + vote + " 100 100 100 " + ALWAYS + " 0");
@@ -149,7 +151,8 @@ public final class PlansTest {
     private static void daysTo99() {
         edges.sentence("the sum of CHANCES over DAYS 0 to 99");
         String part = "part 0 0 0, vote 1 1 0 0 0 0";
-        int[][] bypasses = {{0, 0, 1}, {99, 99, 1}, {100, 100, 0}, {100, 999, 0}, {98, 101, 2}, {0, 999, 100}, {0, 99, 100}, {1, 99, 99}};
+        int[][] bypasses = {{0, 0, 1}, {99, 99, 1}, {100, 100, 0}, {100, 999, 0}, {98, 101, 2}, {0, 999, 100},
+            {0, 99, 100}, {1, 99, 99}};
         for (int[] row : bypasses) {
             Run x = edges.run(part + ", bypass 0 " + row[0] + " " + row[1]);
             x.due(1, "plan 0 100 100 100 " + row[2] * CERTAIN + " 0");

@@ -160,10 +160,11 @@ public final class RefusalTest {
         }
         for (int vote = 0; vote < votes; vote++) {
             tell(x, text, Edges.each(3, "below " + vote + " ?"));
-            tell(x, text, "shared " + vote + " 0, nothing " + vote + ", chance " + vote + " 9, over " + vote + " 0 199, broken "
-                + vote + " 0 199 " + CERTAIN / 2 + ", matters " + vote + " 0 9, most " + vote + " 29, plan "
-                + vote + " 7 20 90 " + 20 * CERTAIN + " 0, plan " + vote + " 7 20 90 " + 20 * CERTAIN + " 1");
+            tell(x, text, "shared " + vote + " 0, nothing " + vote + ", chance " + vote + " 9, over " + vote + " 0 29");
+            tell(x, text, "broken " + vote + " 0 29 " + CERTAIN / 2 + ", matters " + vote + " 0 9, most " + vote + " 29");
         }
+        String plan = "plan 0 7 20 90 " + 20 * CERTAIN;
+        tell(x, text, plan + " 0, " + plan + " 1");
         for (int part = 0; part < parts; part++) {
             tell(x, text, "cost " + part + " 3, noTests " + part + " 10, noTests " + part + " 0");
         }

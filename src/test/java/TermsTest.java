@@ -162,7 +162,8 @@ public final class TermsTest {
 
     private static void sharesOfAPart() {
         edges.sentence("a SHARE b at once, a SHARE a more each DAY, a SHARE z to act for nothing");
-        Run x = edges.run("part 1 2 4, part 64 0 0, part 0 64 0, part 0 0 64, part 0 0 0, " + Edges.each(5, "vote 1 1 ? 0 0 0"));
+        Run x = edges.run("part 1 2 4, part 64 0 0, part 0 64 0, part 0 0 64, part 0 0 0, "
+            + Edges.each(5, "vote 1 1 ? 0 0 0"));
         int[] onDay0 = {1, 64, 0, 0, 0};
         int[] onDay1 = {3, 64, 64, 0, 0};
         int[] onDay999 = {64, 64, 64, 0, 0};
@@ -309,7 +310,8 @@ public final class TermsTest {
 
     private static void lesserOf64() {
         edges.sentence("the lesser of 64 and b and a times how many DAYS");
-        String parts = "part 3 2 0, part 4 2 0, part 0 1 0, part 63 1 0, part 64 64 0, part 0 64 0, part 63 0 0, part 1 63 0";
+        String parts = "part 3 2 0, part 4 2 0, part 0 1 0, part 63 1 0, part 64 64 0, part 0 64 0, part 63 0 0, "
+            + "part 1 63 0";
         int[][] rows = {
             {0, 0, 3}, {0, 1, 5}, {0, 30, 63}, {0, 31, 64}, {0, 32, 64},
             {1, 29, 62}, {1, 30, 64}, {1, 31, 64},
@@ -414,7 +416,8 @@ public final class TermsTest {
 
     private static void bypassBothWith() {
         edges.sentence("DAYS from x to y (both with)");
-        for (int day : new int[] {0, 1, 31, 32, 62, 63, 64, 65, 127, 128, 191, 192, 255, 256, 511, 512, 959, 960, 998, 999}) {
+        for (int day : new int[] {0, 1, 31, 32, 62, 63, 64, 65, 127, 128, 191, 192, 255, 256, 511, 512, 959, 960,
+            998, 999}) {
             Run x = edges.run("part 0 0 0, bypass 0 " + day + " " + day);
             x.due(1, "bypassed 0 0 999");
             x.due(64, "share 0 " + day);
@@ -480,7 +483,8 @@ public final class TermsTest {
 
     private static void groupsOfTwoAtLeast() {
         edges.sentence("PARTS (as bits, 2 at least)");
-        int[] wild = {Integer.MIN_VALUE, Integer.MAX_VALUE, -1, -2, -4096, Integer.MIN_VALUE | 3, 1 << 30 | 3, 1 << 16 | 3, 1 << 12 | 3};
+        int[] wild = {Integer.MIN_VALUE, Integer.MAX_VALUE, -1, -2, -4096, Integer.MIN_VALUE | 3, 1 << 30 | 3,
+            1 << 16 | 3, 1 << 12 | 3};
         for (int parts = 0; parts <= 12; parts++) {
             String setup = Edges.times(parts, "part 0 0 0");
             int all = (1 << parts) - 1;
@@ -528,7 +532,8 @@ public final class TermsTest {
 
     private static void causeStrikesAll() {
         edges.sentence("a CAUSE that strikes all of them");
-        String setup = Edges.times(5, "part 0 0 0") + ", vote 1 4 0 1 2 3, vote 1 3 0 1 2 0, vote 4 4 0 1 2 3, vote 1 1 4 0 0 0";
+        String setup = Edges.times(5, "part 0 0 0") + ", vote 1 4 0 1 2 3, vote 1 3 0 1 2 0, vote 4 4 0 1 2 3, "
+            + "vote 1 1 4 0 0 0";
         Run three = edges.run(setup + ", group 32 7");
         three.due(0, "chance 0 0");
         three.due(32 * SHARE, "chance 1 0");

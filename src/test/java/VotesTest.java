@@ -119,7 +119,8 @@ public final class VotesTest {
         edges.sentence("each a PART 0 to 11, or 12 and the number of a VOTE that is there");
         String setup = "part 0 0 0, part 0 0 0, part 0 0 0, vote 1 1 0 0 0 0, vote 1 1 1 0 0 0";
         int[] there = {0, 1, 2, 12, 13};
-        int[] none = {3, 4, 10, 11, 14, 15, 22, 23, 24, 25, -1, -12, -13, LEAST, LEAST + 12, GREATEST, GREATEST - 1, 256, 268, 65536};
+        int[] none = {3, 4, 10, 11, 14, 15, 22, 23, 24, 25, -1, -12, -13, LEAST, LEAST + 12, GREATEST,
+            GREATEST - 1, 256, 268, 65536};
         for (int n = 1; n <= 4; n++) {
             for (int place = 0; place < n; place++) {
                 Run refused = edges.run(setup);
@@ -169,7 +170,7 @@ public final class VotesTest {
 
     private static void inputsOfAllThere() {
         edges.sentence("each a PART 0 to 11, or 12 and the number of a VOTE that is there");
-        String parts = Edges.each(12, "part ? 0 0");
+        String parts = Edges.each(12, "part ? 0 ?");
         edges.range(parts, "vote 1 1 ? 0 0 0", 0, 0, 11, 0);
         edges.range(parts + ", vote 1 1 0 0 0 0", "vote 1 1 ? 0 0 0", 0, 1, 12, 1);
         String eleven = parts + ", " + Edges.each(11, "vote 1 1 ? 0 0 0");
@@ -181,12 +182,16 @@ public final class VotesTest {
         Run last = edges.run(parts + ", vote 1 1 11 0 0 0");
         last.due(2048, "below 0 0");
         last.due(11 * SHARE, "chance 0 0");
+        last.due(11 * SHARE, "nothing 0");
+        last.due(CERTAIN, "matters 0 11 0");
+        last.due(0, "matters 0 10 0");
         last.due(11, "most 0 0");
     }
 
     private static void twiceTheSame() {
         edges.sentence("twice the same may be");
-        Run x = edges.run("part 16 0 16, part 32 0 32, vote 2 2 0 0 0 0, vote 1 2 0 0 0 0, vote 2 3 0 0 1 0, vote 3 3 0 0 1 0, "
+        Run x = edges.run("part 16 0 16, part 32 0 32, vote 2 2 0 0 0 0, vote 1 2 0 0 0 0, vote 2 3 0 0 1 0, "
+            + "vote 3 3 0 0 1 0, "
             + "vote 4 4 1 1 1 1, vote 2 4 12 12 1 1, vote 3 4 14 14 0 1");
         long[] failing = {16, 16, 16, 40, 32, 8, 16};
         long[] acting = {16, 16, 16, 8, 32, 40, 16};
@@ -320,7 +325,8 @@ public final class VotesTest {
 
     private static void eventsOfGroupsAreEight() {
         edges.sentence("8 at most (else NO, where its chance is asked)");
-        String votes = ", vote 1 4 0 1 2 3, vote 1 2 12 4 0 0, vote 1 2 13 5 0 0, vote 1 2 14 6 0 0, vote 1 2 15 7 0 0, vote 1 2 16 8 0 0";
+        String votes = ", vote 1 4 0 1 2 3, vote 1 2 12 4 0 0, vote 1 2 13 5 0 0, vote 1 2 14 6 0 0, "
+            + "vote 1 2 15 7 0 0, vote 1 2 16 8 0 0";
         Run x = edges.run(Edges.times(9, "part 1 0 0") + votes);
         for (int groups = 0; groups <= 4; groups++) {
             for (int vote = 0; vote < 6; vote++) {
@@ -351,14 +357,16 @@ public final class VotesTest {
 
     private static void sharedEvents() {
         edges.sentence("PARTS and GROUPS (bit 12 and its number) that are EVENTS of both VOTES. BAD.");
-        Run x = edges.run(Edges.times(12, "part 1 0 0") + ", vote 1 2 0 1 0 0, vote 1 2 1 11 0 0, vote 1 2 4 5 0 0, vote 1 3 12 13 14 0, "
+        Run x = edges.run(Edges.times(12, "part 1 0 0") + ", vote 1 2 0 1 0 0, vote 1 2 1 11 0 0, "
+            + "vote 1 2 4 5 0 0, vote 1 3 12 13 14 0, "
             + "vote 1 1 10 0 0 0");
         x.due(2, "shared 0 1");
         x.due(0, "shared 0 2");
         x.does("group 0 3, group 0 2049, group 0 48, group 64 17");
         int[][] rows = {
             {0, 0, 3 | 11 << 12}, {0, 1, 2 | 3 << 12}, {1, 0, 2 | 3 << 12}, {0, 2, 8 << 12}, {2, 0, 8 << 12}, {1, 2, 0},
-            {1, 1, 2050 | 3 << 12}, {2, 2, 48 | 12 << 12}, {0, 3, 3 | 11 << 12}, {3, 3, 2099 | 15 << 12}, {4, 3, 0}, {4, 4, 1024},
+            {1, 1, 2050 | 3 << 12}, {2, 2, 48 | 12 << 12}, {0, 3, 3 | 11 << 12}, {3, 3, 2099 | 15 << 12},
+            {4, 3, 0}, {4, 4, 1024},
         };
         for (int[] row : rows) {
             x.due(row[2], "shared " + row[0] + " " + row[1]);
@@ -407,7 +415,8 @@ public final class VotesTest {
         edges.sentence("ITS CHANCE on a DAY");
         Run x = edges.run("part 8 1 0, part 16 0 0, part 0 2 0, vote 2 3 0 1 2 0, test 0 10, test 2 12, bypass 1 20 20");
         // Sums of products by 64 to the 3rd: two that fail, or all three.
-        int[][] shares = {{0, 8, 16, 0}, {9, 17, 16, 18}, {10, 8, 16, 20}, {12, 10, 16, 0}, {19, 17, 16, 14}, {20, 18, 64, 16}, {21, 19, 16, 18}};
+        int[][] shares = {{0, 8, 16, 0}, {9, 17, 16, 18}, {10, 8, 16, 20}, {12, 10, 16, 0}, {19, 17, 16, 14},
+            {20, 18, 64, 16}, {21, 19, 16, 18}};
         for (int[] row : shares) {
             long f = row[1], g = row[2], h = row[3];
             long sum = f * g * (64 - h) + f * (64 - g) * h + (64 - f) * g * h + f * g * h;
@@ -435,7 +444,8 @@ public final class VotesTest {
 
     private static void overIsTheSum() {
         edges.sentence("the sum of CHANCES");
-        Run x = edges.run("part 3 1 0, part 5 2 0, part 1 1 0, vote 2 3 0 1 2 0, group 7 5, test 0 15, test 1 33, bypass 2 40 44");
+        Run x = edges.run("part 3 1 0, part 5 2 0, part 1 1 0, vote 2 3 0 1 2 0, group 7 5, test 0 15, test 1 33, "
+            + "bypass 2 40 44");
         long sum = 0;
         for (int day = 0; day < 90; day++) {
             sum += x.answer("chance 0 " + day);
@@ -480,7 +490,8 @@ public final class VotesTest {
 
     private static void nothingOfParts() {
         edges.sentence("FOR NOTHING: likewise with z of PARTS (GROUPS are none there, EVENTS are PARTS)");
-        String setup = "part 0 0 16, part 64 64 32, part 7 7 64, vote 1 2 0 1 0 0, vote 2 2 0 1 0 0, vote 2 3 0 1 2 0, vote 1 1 0 0 0 0";
+        String setup = "part 0 0 16, part 64 64 32, part 7 7 64, vote 1 2 0 1 0 0, vote 2 2 0 1 0 0, "
+            + "vote 2 3 0 1 2 0, vote 1 1 0 0 0 0";
         long[] acting = {40, 8, 40, 16};
         Run x = edges.run(setup);
         for (int vote = 0; vote < 4; vote++) {
@@ -513,7 +524,8 @@ public final class VotesTest {
 
     private static void mattersByHowMuch() {
         edges.sentence("by how much ITS CHANCE is greater if that PART's SHARE is 64 than if it is 0 (others as they are)");
-        Run x = edges.run("part 16 0 0, part 0 1 0, part 64 0 0, vote 1 2 0 1 0 0, vote 2 2 0 1 0 0, vote 2 3 0 1 2 0, vote 1 1 0 0 0 0, "
+        Run x = edges.run("part 16 0 0, part 0 1 0, part 64 0 0, vote 1 2 0 1 0 0, vote 2 2 0 1 0 0, "
+            + "vote 2 3 0 1 2 0, vote 1 1 0 0 0 0, "
             + "vote 1 2 0 0 0 0, vote 2 3 0 0 1 0, test 1 40");
         int[][] rows = {
             {0, 0, 0, 0}, {0, 0, 1, 1}, {0, 0, 39, 39}, {0, 0, 40, 0}, {0, 0, 999, 64}, {0, 1, 0, 16}, {0, 1, 999, 16},
@@ -554,12 +566,14 @@ public final class VotesTest {
 
     private static void mostOfSeveral() {
         edges.sentence("The PART below that MATTERS most (of several the lowest)");
-        Run same = edges.run(Edges.times(12, "part 8 0 0") + ", vote 2 4 11 9 7 5, vote 1 2 12 3 0 0, vote 4 4 10 6 10 6, vote 1 1 11 0 0 0");
+        Run same = edges.run(Edges.times(12, "part 8 0 0") + ", vote 2 4 11 9 7 5, vote 1 2 12 3 0 0, "
+            + "vote 4 4 10 6 10 6, vote 1 1 11 0 0 0");
         same.due(5, "most 0 0");
         same.due(3, "most 1 0");
         same.due(6, "most 2 999");
         same.due(11, "most 3 0");
-        Run x = edges.run("part 40 0 0, part 16 0 0, part 32 1 0, part 0 0 0, vote 1 2 1 2 0 0, vote 2 2 1 2 0 0, vote 1 3 0 1 2 0, "
+        Run x = edges.run("part 40 0 0, part 16 0 0, part 32 1 0, part 0 0 0, vote 1 2 1 2 0 0, vote 2 2 1 2 0 0, "
+            + "vote 1 3 0 1 2 0, "
             + "vote 1 3 1 2 3 0, vote 2 3 0 2 2 0");
         x.due(1, "most 0 0");
         x.due(2, "most 1 0");
@@ -577,9 +591,11 @@ public final class VotesTest {
         x.due(0, "most 4 0");
         x.due(BAD, "most 5 0");
         // Of 8 the last alone matters most, and the first alone, by a single share of its own.
-        Run last = edges.run(Edges.times(7, "part 9 0 0") + ", part 8 0 0" + ", vote 1 4 0 1 2 3, vote 1 4 4 5 6 7, vote 1 2 12 13 0 0");
+        Run last = edges.run(Edges.times(7, "part 9 0 0") + ", part 8 0 0" + ", vote 1 4 0 1 2 3, "
+            + "vote 1 4 4 5 6 7, vote 1 2 12 13 0 0");
         last.due(7, "most 2 0");
-        Run first = edges.run("part 8 0 0, " + Edges.times(7, "part 9 0 0") + ", vote 1 4 7 6 5 4, vote 1 4 3 2 1 0, vote 1 2 12 13 0 0");
+        Run first = edges.run("part 8 0 0, " + Edges.times(7, "part 9 0 0") + ", vote 1 4 7 6 5 4, "
+            + "vote 1 4 3 2 1 0, vote 1 2 12 13 0 0");
         first.due(0, "most 2 0");
     }
 }

@@ -8,7 +8,7 @@ import java.util.TreeSet;
 
 /** The face is the document's, and nothing beside it is open to callers. */
 public final class FaceTest {
-    private static final String[] METHODS = {
+    static final String[] METHODS = {
         "int part(int,int,int)", "int test(int,int)", "int noTests(int,int)",
         "int bypass(int,int,int)", "int bypassed(int,int,int)", "int group(int,int)",
         "int vote(int,int,int,int,int,int)", "int share(int,int)", "int below(int,int)",
